@@ -16,6 +16,7 @@ public final class PromiseTests {
         promise3Dickson();
         promise3CannotStand();
         promise3NoneSuch();
+        promise3Ends();
         promise3Seventh();
         promise3Depth();
         promise3Fields();
@@ -219,6 +220,11 @@ public final class PromiseTests {
         fault(1, 25, "field 5 1;poly x;poly f0 x;");
         fault(1, 15, "field 5 1;poly fx(x);");
         fault(1, 15, "field 5 1;poly dicksonx;");
+        fault(1, 15, "field 5 1;poly xa;");
+        fault(1, 15, "field 5 1;poly xz;");
+        fault(1, 15, "field 5 1;poly ax;");
+        fault(1, 16, "field 5 1;poly x`;");
+        fault(1, 16, "field 5 1;poly x{;");
         fault(1, 22, "field 5 1;poly dickson;");
         fault(1, 24, "field 5 1;poly dickson 1;");
         fault(1, 25, "field 5 1;poly dickson 1 -;");
@@ -266,6 +272,34 @@ public final class PromiseTests {
         fault(2, 25, "field 5 1;poly dickson 1 5;");
         fault(2, 23, "field 5 1;poly dickson 10000 5;");
         row("the greatest point", "field 5 1;poly 4;", 4, 4, 4, 4, 4);
+    }
+
+    /** What stands behind the first n bytes belongs to no word and no number of theirs. */
+    private static void promise3Ends() {
+        CHECK.begin("promise 3, ends");
+        FieldPerms x = new FieldPerms();
+        Check.feed(x, "field 5 12;");
+        CHECK.same("a number that is cut", -9, x.text(9));
+        CHECK.same("at the length", 9, x.fault());
+        Check.feed(x, "fields");
+        CHECK.same("a word that is cut", -9, x.text(5));
+        CHECK.same("at the length", 5, x.fault());
+        Check.feed(x, "poly x;poly x;poly x;");
+        CHECK.same("it is not field", -9, x.text(0));
+        CHECK.same("ends behind no byte", 0, x.fault());
+        String long299 = "field 5 1;poly x" + " ".repeat(281) + "+ ";
+        CHECK.same("300 bytes that end in a number", -9, Check.tell(x, long299 + "4"));
+        CHECK.same("at the length", 300, x.fault());
+        CHECK.same("300 bytes that end in a word", -9, Check.tell(x, long299 + "x"));
+        CHECK.same("at the length", 300, x.fault());
+        CHECK.same("300 bytes that end in a sign", -9, Check.tell(x, long299 + "("));
+        CHECK.same("at the length", 300, x.fault());
+        CHECK.same("300 digits", -8, Check.tell(x, "field " + "1".repeat(294)));
+        CHECK.same("at the first", 6, x.fault());
+        CHECK.same("300 letters", -9, Check.tell(x, "f".repeat(300)));
+        CHECK.same("at the first", 0, x.fault());
+        CHECK.same("300 signs", -9, Check.tell(x, ";".repeat(300)));
+        CHECK.same("at the first", 0, x.fault());
     }
 
     private static void promise3Seventh() {
@@ -643,6 +677,10 @@ public final class PromiseTests {
         }
         CHECK.same("one cycle of 64", 1, y.cycles(0, 64));
         CHECK.same("its order", 64, y.order(0));
+        y.again(0, 64);
+        CHECK.same("64 times it is x", 64, y.cycles(1, 1));
+        CHECK.same("without a cycle of 64", 0, y.cycles(1, 64));
+        CHECK.same("the order of x", 1, y.order(1));
     }
 
     private static void promise21() {
