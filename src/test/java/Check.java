@@ -1,5 +1,7 @@
 import java.nio.charset.StandardCharsets;
 import java.util.Arrays;
+import java.util.NoSuchElementException;
+import java.util.function.Supplier;
 
 /** What all tests share: comparing answers, and feeding texts twenty bytes at a time. */
 final class Check {
@@ -8,12 +10,41 @@ final class Check {
         long go();
     }
 
+    /** A call on an object that is still to be made. */
+    interface CallOf {
+        long go(FieldPerms x);
+    }
+
+    private static final Class<?>[] REASONS = {NoSuchElementException.class, IllegalArgumentException.class,
+        IllegalStateException.class};
+
     private int wrong = 0;
     private int looked = 0;
+    private long promises = 0;
     private String part = "";
 
     void begin(String name) {
         part = name;
+    }
+
+    /** The checks behind it belong to a sentence of DOC.md; that it stands there is looked up. */
+    void sentence(String where, String words) {
+        begin(where + ", \"" + words + "\"");
+        holds("it stands in the document", Document.says(where, words));
+    }
+
+    /** The same for a promise, by its number. */
+    void sentence(int promise, String words) {
+        sentence("Promise " + promise + ":", words);
+        promises |= 1L << promise;
+    }
+
+    /** That each of these promises had a sentence. */
+    void hadSentences(int first, int last) {
+        begin("sentences");
+        for (int promise = first; promise <= last; promise++) {
+            holds("promise " + promise + " has one", (promises >>> promise & 1) == 1);
+        }
     }
 
     void same(String what, long want, long got) {
@@ -34,6 +65,55 @@ final class Check {
         if (!got.equals(want.getName())) {
             wrong++;
             System.out.println(part + ": " + what + " threw " + got + ", due is " + want.getName());
+        }
+    }
+
+    /**
+     * A call that is refused is counted once, by its own reason, and leaves all else as it was: the object looks like
+     * one that was made in the same way and not called, and so does all that can still be taken back.
+     */
+    void refused(String what, Supplier<FieldPerms> maker, Class<?> want, CallOf call) {
+        FieldPerms x = maker.get();
+        int[] counted = statuses(x);
+        refuses(what, want, () -> call.go(x));
+        int[] counts = statuses(x);
+        for (int i = 0; i < REASONS.length; i++) {
+            same(what + ", status " + i, counted[i] + (want == REASONS[i] ? 1 : 0), counts[i]);
+        }
+        samePast(what, x, maker.get());
+    }
+
+    void same(String what, String want, String got) {
+        looked++;
+        if (!want.equals(got)) {
+            wrong++;
+            System.out.println(part + ": " + what + " is " + got + ", due is " + want);
+        }
+    }
+
+    /** What can be seen of an object by a few calls, none of which is refused; but for status(). */
+    static String look(FieldPerms x) {
+        StringBuilder seen = new StringBuilder();
+        for (int what = 0; what <= 6; what++) {
+            seen.append(x.told(what)).append(' ');
+        }
+        int last = x.told(0) - 1;
+        for (int what = 0; what <= 3; what++) {
+            seen.append(x.points(last, 1, what)).append(' ').append(x.points(last, last, what)).append(' ');
+        }
+        return seen.append(x.fault()).append(' ').append(x.print()).append(' ').append(x.orbits()).toString();
+    }
+
+    static int[] statuses(FieldPerms x) {
+        return new int[] {x.status(0), x.status(1), x.status(2)};
+    }
+
+    /** Takes all back on both, which must look the same at each step. */
+    void samePast(String what, FieldPerms x, FieldPerms y) {
+        same(what + " leaves", look(y), look(x));
+        for (int step = 1; step <= 9; step++) {
+            same(what + ", undo " + step, y.undo(), x.undo());
+            same(what + ", behind undo " + step, look(y), look(x));
         }
     }
 

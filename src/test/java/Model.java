@@ -190,6 +190,18 @@ final class Model {
         return BASES.computeIfAbsent(p * 100 + m, k -> new Base(p, m));
     }
 
+    /** All fields that there are: P, M, q. */
+    static int[][] fields() {
+        List<int[]> all = new ArrayList<>();
+        for (int p = 2; p <= 64; p++) {
+            boolean prime = BigInteger.valueOf(p).isProbablePrime(50);
+            for (int m = 1, q = p; prime && q <= 64; m++, q *= p) {
+                all.add(new int[] {p, m, q});
+            }
+        }
+        return all.toArray(new int[0][]);
+    }
+
     static int[] digits(int n, int p, int length) {
         int[] d = new int[length];
         for (int i = 0; i < length; i++) {

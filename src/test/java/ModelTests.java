@@ -250,7 +250,8 @@ public final class ModelTests {
             for (int i = 0; i < field[1]; i++) {
                 size *= field[0];
             }
-            StringBuilder text = new StringBuilder(blank() + "field " + field[0] + " " + blank() + field[1] + blank() + ";");
+            StringBuilder text = new StringBuilder(blank());
+            text.append("field " + field[0] + " " + blank() + field[1] + blank() + ";");
             int most = random.nextInt(8);
             for (polys = 0; polys < most; polys++) {
                 String next = blank() + "poly " + sum(0) + blank() + ";";

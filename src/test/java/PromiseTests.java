@@ -139,7 +139,8 @@ public final class PromiseTests {
         row("leading zeros", "field 007 01;poly x^00000000000000000001+000006;", 6, 0, 1, 2, 3, 4, 5);
         row("no blanks but where words meet", "field7 1;poly6;", 6, 6, 6, 6, 6, 6, 6);
         row("blanks", "  field  7  1  ;  poly  2  *  x  ^  1  ;  ", 0, 2, 4, 6, 1, 3, 5);
-        FieldPerms x = Check.told("field 7 1;poly x^2;poly x+1;poly f0(f1(x));poly f 1 ( f0(x) )^2;poly f1(x)*f0(2)-x;");
+        FieldPerms x = Check.told("field 7 1;poly x^2;poly x+1;poly f0(f1(x));poly f 1 ( f0(x) )^2;"
+                + "poly f1(x)*f0(2)-x;");
         CHECK.same("f0 of f1", 9 % 7, x.at(2, 2));
         CHECK.same("f1 of f0, squared", 25 % 7, x.at(3, 2));
         CHECK.same("f among products", 3 * 4 - 2 - 7, x.at(4, 2));
