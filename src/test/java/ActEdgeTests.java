@@ -36,6 +36,7 @@ public final class ActEdgeTests {
         theLatestNotYet();
         fieldsTakenBack();
         askedNothingChanges();
+        askedOneBehindTheOther();
         theFirstTold();
         throwingChangesNothing();
         CHECK.hadSentences(1, 1);
@@ -274,6 +275,13 @@ public final class ActEdgeTests {
             CHECK.same("2x and 3x by turns", number % 2 == 1 ? 3 : 2, x.at(number, 1));
         }
         CHECK.same("how many", 6, x.told(4));
+        // where the new one stands another one stood
+        Check.tell(x, "field 5 1;poly 3-x;poly 4;");
+        x.drop(1);
+        CHECK.same("its number", 1, x.back(0));
+        for (int s = 0; s < 5; s++) {
+            CHECK.same("3-x goes back by itself, from " + s, (8 - s) % 5, x.at(1, s));
+        }
     }
 
     private static void backRefused() {
@@ -500,19 +508,40 @@ public final class ActEdgeTests {
         }
     }
 
-    private static void askedNothingChanges() {
-        CHECK.sentence("Terms", "Asked, nothing stays changed.");
-        Check.CallOf[] asks = {x -> x.fault(), x -> x.told(5), x -> x.points(4, 3, 3), x -> x.at(1, 4),
+    private static Check.CallOf[] questions() {
+        return new Check.CallOf[] {x -> x.fault(), x -> x.told(5), x -> x.points(4, 3, 3), x -> x.at(1, 4),
             x -> x.coefficient(1, 4), x -> x.degree(1), x -> x.taken(1, 0), x -> x.image(1), x -> x.permutes(1),
             x -> x.powers(1), x -> x.cycles(0, 5), x -> x.order(0), x -> x.even(0), x -> x.orbit(4), x -> x.orbits(),
             x -> x.spread(1), x -> x.monomials(), x -> x.dicksons(4), x -> x.binomials(5), x -> x.print(),
             x -> x.status(0)};
+    }
+
+    private static void askedNothingChanges() {
+        CHECK.sentence("Terms", "Asked, nothing stays changed.");
+        Check.CallOf[] asks = questions();
         for (int i = 0; i < asks.length; i++) {
             FieldPerms x = two();
             long first = asks[i].go(x);
             CHECK.same("question " + i + " asked again", first, asks[i].go(x));
             CHECK.same("question " + i + " counts as no refusal", "[0, 0, 0]", Arrays.toString(Check.statuses(x)));
             CHECK.samePast("question " + i, x, two());
+        }
+    }
+
+    private static void askedOneBehindTheOther() {
+        CHECK.sentence("Terms", "Asked, nothing stays changed.");
+        Check.CallOf[] asks = questions();
+        for (int i = 0; i < asks.length; i++) {
+            long want = asks[i].go(two());
+            for (int j = 0; j < asks.length; j++) {
+                FieldPerms x = two();
+                asks[j].go(x);
+                CHECK.same("question " + i + " behind " + j, want, asks[i].go(x));
+            }
+            FieldPerms x = two();
+            x.again(0, 3);
+            x.undo();
+            CHECK.same("question " + i + " behind an act taken back", want, asks[i].go(x));
         }
     }
 

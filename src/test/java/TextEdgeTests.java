@@ -78,6 +78,9 @@ public final class TextEdgeTests {
             right(filled("field 5 1;poly x;", length, ""), 1);
             fault(1, length, filled("field 5 1;poly x", length, "+1"));
             fault(1, length - 1, filled("field 5 1;poly x;", length, "x"));
+            fault(1, 0, ";".repeat(length));
+            fault(1, 10, "field 5 1;" + ";".repeat(length - 10));
+            fault(1, 16, "field 5 1;poly x" + "()".repeat(length / 2 - 8));
         }
     }
 
@@ -167,6 +170,7 @@ public final class TextEdgeTests {
         row("field 5 1;poly x+1;poly f0(x);", 1, 2, 3, 4, 0);
         row("field 5 1;poly x+1;poly f0(f0(x)*2);", 3, 0, 2, 4, 1);
         fault(2, 23, "field 5 1;poly x;poly f1(x);");
+        CHECK.same("of all 64 points", 63, Check.told("field 2 6;poly x+1;poly f0(f0(x));").at(1, 63));
         String five = "field 5 1;" + SIX.substring(0, 35);
         row(five + "poly f4(x)+f0(1);", 1, 2, 3, 4, 0);
         fault(2, five.length() + 6, five + "poly f5(x);");
@@ -181,7 +185,7 @@ public final class TextEdgeTests {
 
     private static void whichDicksons() {
         CHECK.sentence("Terms", "\"dickson\" N N (DICKSON's n-th, 0 to 9,999, by POINT a)");
-        for (int[] field : new int[][] {{2, 1, 2}, {5, 1, 5}, {2, 2, 4}, {7, 2, 49}}) {
+        for (int[] field : new int[][] {{2, 1, 2}, {5, 1, 5}, {2, 2, 4}, {7, 2, 49}, {2, 6, 64}}) {
             Model.Base base = Model.base(field[0], field[1]);
             String head = "field " + field[0] + " " + field[1] + ";poly dickson ";
             int q = field[2];
@@ -321,9 +325,23 @@ public final class TextEdgeTests {
             int place = String.join("", Arrays.copyOf(PIECES, i)).length();
             place += PIECES[i].startsWith(" ") ? 1 : 0;
             List<String> pieces = new ArrayList<>(Arrays.asList(PIECES));
-            pieces.set(i, PIECES[i].startsWith(" ") ? " ," : ",");
-            fault(1, place, String.join("", pieces));
+            for (int b = 0; b < 256; b++) {
+                if (standsNowhere(b)) {
+                    pieces.set(i, (PIECES[i].startsWith(" ") ? " " : "") + (char) b);
+                    fault(1, place, String.join("", pieces));
+                }
+            }
         }
+        String all = String.join("", PIECES);
+        for (int b = 0; b < 256; b++) {
+            if (standsNowhere(b)) {
+                fault(1, all.length(), all + (char) b);
+            }
+        }
+    }
+
+    private static boolean standsNowhere(int b) {
+        return !(b >= 'a' && b <= 'z' || b >= '0' && b <= '9' || " +-*^();".indexOf(b) >= 0);
     }
 
     /** Each beginning of a right text: cut inside a word that word can't stand there, else it ends too early. */
