@@ -197,20 +197,25 @@ public final class ActEdgeTests {
         for (String text : texts) {
             for (int n : times) {
                 FieldPerms x = Check.told(text);
+                int[] row = rowOf(x, 0);
                 CHECK.same(text + " " + n + " times", 1, x.again(0, n));
-                for (int s = 0; s < x.told(0); s++) {
-                    CHECK.same(text + " " + n + " times, at " + s, walked(x, s, n), x.at(1, s));
+                for (int s = 0; s < row.length; s++) {
+                    CHECK.same(text + " " + n + " times, at " + s, walked(row, s, n), x.at(1, s));
                 }
             }
         }
     }
 
-    /** Where n steps lead by polynomial 0; once a point comes again, whole rounds are left out. */
-    private static int walked(FieldPerms x, int from, int n) {
+    private static int[] rowOf(FieldPerms x, int poly) {
         int[] row = new int[x.told(0)];
         for (int s = 0; s < row.length; s++) {
-            row[s] = x.at(0, s);
+            row[s] = x.at(poly, s);
         }
+        return row;
+    }
+
+    /** Where n steps lead; once a point comes again, whole rounds are left out. */
+    private static int walked(int[] row, int from, int n) {
         int point = from;
         int[] metAt = new int[row.length];
         for (int step = 1; step <= n; step++) {
