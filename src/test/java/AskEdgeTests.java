@@ -286,6 +286,7 @@ public final class AskEdgeTests {
 
     private static void powersRoots() {
         CHECK.sentence(19, "0: it has not just one root");
+        CHECK.holds("in the terms", Document.says("Terms", "it has just one root (a POINT at which it is POINT 0)"));
         for (int[] field : Model.fields()) {
             int q = field[2];
             FieldPerms x = Check.told(head(field) + "poly 0;poly 1;poly x;poly x;");
@@ -320,6 +321,8 @@ public final class AskEdgeTests {
 
     private static void cyclesOfAll() {
         CHECK.sentence(20, "How many CYCLES have n POINTS (1 to 64; n 0: all CYCLES)");
+        CHECK.holds("in the terms", Document.says("Terms",
+                "CYCLES of one that PERMUTES: rows of POINTS that go round"));
         for (int length = 1; length <= 64; length++) {
             FieldPerms x = byRounds(length);
             CHECK.same("one round of " + length, length == 1 ? 64 : 1, x.cycles(0, length));

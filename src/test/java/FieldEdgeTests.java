@@ -11,8 +11,10 @@ public final class FieldEdgeTests {
     public static void main(String[] args) {
         whichFields();
         whichPoints();
+        digitsOfPoints();
         digitsGoRound();
         theModulus();
+        theModulusIsNoProduct();
         theLeastModulus();
         theLeastModulusOfDegreeOne();
         coefficientsOfAllPowers();
@@ -68,6 +70,24 @@ public final class FieldEdgeTests {
         }
     }
 
+    private static void digitsOfPoints() {
+        CHECK.sentence("Terms", "of POINT n the digits of n by base P, the last first, are c 0, c 1, .. c (M less 1)");
+        for (int[] field : Model.fields()) {
+            int p = field[0];
+            for (int n = 0; n < field[2]; n++) {
+                FieldPerms x = Check.told(head(field));
+                int sum = 0;
+                int risen = 1;
+                for (int left = n; left > 0; left /= p) {
+                    sum = x.points(sum, x.points(left % p, risen, 2), 0);
+                    // with M 1 there is no y: just one digit
+                    risen = left >= p ? x.points(risen, p, 2) : risen;
+                }
+                CHECK.same(head(field) + " point " + n + " by its digits", n, sum);
+            }
+        }
+    }
+
     private static void digitsGoRound() {
         CHECK.sentence("Terms", "digits are reckoned modulo P");
         for (int[] field : Model.fields()) {
@@ -109,6 +129,19 @@ public final class FieldEdgeTests {
         for (int i = 0; i < heads.length; i++) {
             FieldPerms x = Check.told(heads[i]);
             CHECK.same(heads[i] + " y to the M", want[i], x.points(tops[i], x.told(1), 2));
+        }
+    }
+
+    /** Were it one, its two parts would be points whose product is 0. */
+    private static void theModulusIsNoProduct() {
+        CHECK.sentence("Terms", "no product of two such sums of lesser degrees (1 or more)");
+        for (int[] field : Model.fields()) {
+            for (int a = 1; a < field[2]; a++) {
+                FieldPerms x = Check.told(head(field));
+                for (int b = 1; b < field[2]; b++) {
+                    CHECK.holds(head(field) + " " + a + " times " + b + " is not 0", x.points(a, b, 2) != 0);
+                }
+            }
         }
     }
 
